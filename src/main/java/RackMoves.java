@@ -90,7 +90,6 @@ public final class RackMoves {
     private static final int STEP_IMPOSSIBLE = -1000;
     private static final int HOUR_TOO_LATE = -9999;
 
-    private static final double ALL_SLOTS = 60.0;
     private static final long DIGEST_START = 3511L;
     private static final long DIGEST_FACTOR = 31L;
 
@@ -383,7 +382,7 @@ public final class RackMoves {
         for (int rack = 0; rack < RACKS; rack++) {
             slots += room.slotsTakenIn(rack);
         }
-        return (double) slots / ALL_SLOTS;
+        return (double) slots / 60.0;
     }
 
     // ---- plan

@@ -127,8 +127,8 @@ public final class PlanTest {
         Check.is("latest machine", room.pile(0, 0), 2);
         Check.is("slot before", room.pile(2, 2), 1);
         Check.is("the text stays", room.clearText(), 35);
-        String ten = "m0>0;m0>1;m0>2;m0>3;m0>4;m0>5;m0>4;m0>3;m0>2;m0>1;m0>0;m0>1;m0>2;m0>3;m0>4;m0>5;m0>4;m0>3;";
-        Check.is("18 steps", Rooms.plan(room, ten), 18);
+        String moves = "m0>0;m0>1;m0>2;m0>3;m0>4;m0>5;m0>4;m0>3;m0>2;m0>1;m0>0;m0>1;m0>2;m0>3;m0>4;m0>5;m0>4;m0>3;";
+        Check.is("18 steps", Rooms.plan(room, moves), 18);
         Check.is("on the pile", room.value(11), 20);
         Check.is("done", room.value(12), 24);
         Check.is("the oldest ones went", room.pile(19, 0), 0);

@@ -381,6 +381,7 @@ public final class RoomTest {
         Check.is("a slot that was left", room.slot(5, 4), RackMoves.NONE);
         Check.is("a slot that is taken then", room.slot(0, 2), 1);
         Check.is("a slot behind", room.slot(5, 7), 2);
+        Check.is("a free slot just below a machine", room.slot(5, 6), RackMoves.NONE);
         for (int none : new int[] {-1, 6, Integer.MIN_VALUE, Integer.MAX_VALUE}) {
             Check.refused("slot no rack", room, Rooms.INDEX, () -> room.slot(none, 0));
         }

@@ -8,7 +8,8 @@ import java.util.regex.Pattern;
 public final class SourceTest {
     private static final String[] NEVER = {"\\bimport\\b", "\\bpackage\\b", "->", "::", "\\bcatch\\b", "\\bfinally\\b",
         "\\bassert\\b", "\\bsynchronized\\b", "\\bHashMap\\b", "\\bequals\\(", "\\bhashCode\\(", "\\btoString\\(",
-        "Exact\\(", "\\bClass\\b", "\\bprotected\\b", "\\bvar\\b", "\\bInteger\\b", "\" \\+|\\+ \""};
+        "Exact\\(", "\\bClass\\b", "\\bprotected\\b", "\\bvar\\b", "\\bInteger\\b", "\" \\+|\\+ \"",
+        "\\bstatic final (?!int |long |boolean |char |String |class )"};
     private static final int MOST_LINES_OF_METHOD = 60;
     private static final int MOST_CLASSES = 12;
     private static final Pattern METHOD = Pattern.compile("( {4}| {8})(?!static final)\\S.*\\) ?(throws .*)?\\{");

@@ -106,7 +106,7 @@ public final class StateTest {
         RackMoves room = Rooms.withMachines(12);
         for (int machine = 0; machine < 12; machine++) {
             room.move(machine, machine % 6);
-            room.addFreeze(machine % 4, machine, 1 + machine > 6 ? 0 + machine : 1 + machine);
+            room.addFreeze(machine % 4, machine, machine + 1);
             if (room.value(3) == 6) {
                 room.removeFreeze(0);
             }

@@ -17,7 +17,9 @@ public final class WhatIfTest {
         room.addMachine(4, 50, 1, 1);
         room.addMachine(4, 40, 2, 2);
         room.addCable(0, 1, 5);
-        Check.is("possible", room.mayMove(0, 0), 0);
+        for (int rack = 0; rack < 6; rack++) {
+            Check.is("possible in " + rack, room.mayMove(0, rack), 0);
+        }
         Check.is("in the store already", room.mayMove(0, RackMoves.NONE), 2);
         room.move(0, 0);
         room.move(1, 0);
@@ -55,6 +57,9 @@ public final class WhatIfTest {
         }
         room.addMachine(1, 30, 0, 1);
         Check.is("of several the lowest", room.bestRack(6), 3);
+        room.move(0, RackMoves.NONE);
+        Check.is("the first rack too", room.bestRack(6), 0);
+        room.move(0, 0);
         room.addMachine(1, 50, 0, 1);
         Check.is("the emptiest", room.bestRack(7), 5);
         room.setLimit(5, 59);
