@@ -6,8 +6,18 @@ final class Check {
 
     private static int checks = 0;
     private static int wrong = 0;
+    private static String test = "";
 
     private Check() {
+    }
+
+    /** What is told from now on bears this name ahead of it. */
+    static void begin(String name) {
+        test = name;
+    }
+
+    static int count() {
+        return checks;
     }
 
     static void is(String what, long got, long due) {
@@ -21,6 +31,13 @@ final class Check {
         checks++;
         if (Double.compare(got, due) != 0) {
             tell(what + " answered " + got + ", due is " + due);
+        }
+    }
+
+    static void same(String what, Object got, Object due) {
+        checks++;
+        if (!java.util.Objects.equals(got, due)) {
+            tell(what + " is " + got + ", due is " + due);
         }
     }
 
@@ -46,7 +63,7 @@ final class Check {
 
     static void tell(String fault) {
         wrong++;
-        System.out.println(fault);
+        System.out.println(test + fault);
     }
 
     static void end() {
