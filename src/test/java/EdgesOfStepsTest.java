@@ -1,3 +1,5 @@
+import java.util.Random;
+
 /** Promises 17 to 25, steps and what-if questions: each sentence by a test of its own. */
 public final class EdgesOfStepsTest {
     private static final int NONE = RackMoves.NONE;
@@ -352,6 +354,71 @@ public final class EdgesOfStepsTest {
         }
     }
 
+    @Says(promise = 22, value = "so that the load of the fullest rack (with the greatest load) is least.")
+    private static void itsLoadLeavesItsRack() {
+        RackMoves room = Rooms.withMachines(0);
+        int[] loads = {50, 45, 10};
+        for (int machine = 0; machine < loads.length; machine++) {
+            room.addMachine(1, loads[machine], 0, 0);
+            room.move(machine, machine == 1 ? 1 : 0);
+        }
+        Check.is("rack 1 would have 55, when rack 0 has 50", room.bestRack(2), 2);
+        for (int rack = 2; rack < 6; rack++) {
+            room.setLimit(rack, 9);
+        }
+        Check.is("rack 1 is all that is left", room.bestRack(2), 1);
+    }
+
+    @Says(promise = 22, value = {"Finds the rack to which a machine can be moved",
+        "so that the load of the fullest rack (with the greatest load) is least."})
+    private static void bestRackAsCallsTell() {
+        for (int seed = 0; seed < 200; seed++) {
+            Edges.Make make = made(seed);
+            for (int machine = 0; machine < make.room().value(0); machine++) {
+                Check.is("bestRack of " + machine + ", " + seed, make.room().bestRack(machine), byMoves(make, machine));
+            }
+        }
+    }
+
+    private static int byMoves(Edges.Make make, int machine) {
+        int best = NONE;
+        int least = Integer.MAX_VALUE;
+        for (int rack = 0; rack < 6; rack++) {
+            RackMoves room = make.room();
+            if (room.move(machine, rack) == 0) {
+                int fullest = 0;
+                for (int each = 0; each < 6; each++) {
+                    fullest = Math.max(fullest, room.rack(each, 1));
+                }
+                best = fullest < least ? rack : best;
+                least = Math.min(fullest, least);
+            }
+        }
+        return best;
+    }
+
+    /** A room with many steps behind it, another one for each seed. */
+    private static Edges.Make made(int seed) {
+        return () -> {
+            Random random = new Random(seed);
+            RackMoves room = new RackMoves();
+            for (int machine = 0; machine < 2 + seed % 11; machine++) {
+                room.addMachine(1 + random.nextInt(4), 1 + random.nextInt(60), random.nextInt(3), random.nextInt(4));
+            }
+            for (int step = 0; step < 60; step++) {
+                int machine = random.nextInt(room.value(0));
+                if (random.nextInt(4) == 0) {
+                    room.change(machine, random.nextInt(3));
+                } else {
+                    room.move(machine, random.nextInt(3 + seed % 4) - random.nextInt(2));
+                }
+            }
+            room.addFreeze(random.nextInt(4), 0, random.nextInt(2) + 1);
+            room.pass(1);
+            return room;
+        };
+    }
+
     @Says(promise = 22, value = {"`machine`: number of a machine",
         "Throws `IndexOutOfBoundsException` if there is no such machine"})
     private static void bestRackMachine() {
@@ -421,6 +488,42 @@ public final class EdgesOfStepsTest {
         Edges.idle("of bestChange", Rooms::busy, RackMoves::bestChange);
     }
 
+    @Says(promise = 23, value = {"Finds the change of a phase that is possible as a step now",
+        "and makes the greatest difference between the phases smallest."})
+    private static void bestChangeAsCallsTell() {
+        for (int seed = 0; seed < 200; seed++) {
+            Edges.Make make = made(seed);
+            int best = NONE;
+            int least = make.room().value(9);
+            for (int number = 0; number < 3 * make.room().value(0); number++) {
+                RackMoves room = make.room();
+                if (room.change(number / 3, number % 3) == 0 && room.value(9) < least) {
+                    best = number;
+                    least = room.value(9);
+                }
+            }
+            Check.is("bestChange, " + seed, make.room().bestChange(), best);
+        }
+    }
+
+    @Says(promise = 23, value = "Returns 3 * (number of the machine) + (the phase),")
+    private static void bestChangeToEachPhase() {
+        for (int from = 0; from < 3; from++) {
+            for (int to = 0; to < 3; to++) {
+                if (from != to) {
+                    RackMoves room = Rooms.withMachines(0);
+                    int[] loads = {1, 9, 2};
+                    int[] phases = {3 - from - to, from, from};
+                    for (int machine = 0; machine < 3; machine++) {
+                        room.addMachine(1, loads[machine], phases[machine], 0);
+                        room.move(machine, 0);
+                    }
+                    Check.is("from " + from + " to " + to, room.bestChange(), 3 * 1 + to);
+                }
+            }
+        }
+    }
+
     @Says(promise = 23, value = "Returns 3 * (number of the machine) + (the phase), of several the lowest such number;")
     private static void bestChangeReturns() {
         RackMoves room = Rooms.withMachines(12);
@@ -479,6 +582,19 @@ public final class EdgesOfStepsTest {
         Check.is("in a busy room", Rooms.busy().backable(), 5);
         Edges.idle("of backable", Rooms::busy, RackMoves::backable);
         Edges.idle("of backable in a full room", Rooms::full, RackMoves::backable);
+    }
+
+    @Says(promise = 24, value = "Tells how many steps could be backed out now, one after the other.")
+    private static void backableAsCallsTell() {
+        for (int seed = 0; seed < 200; seed++) {
+            Edges.Make make = made(seed);
+            RackMoves room = make.room();
+            int count = 0;
+            while (room.backOut() == 0) {
+                count++;
+            }
+            Check.is("backable, " + seed, make.room().backable(), count);
+        }
     }
 
     @Says(promise = 24, value = "one after the other.")

@@ -86,20 +86,33 @@ public final class StateTest {
     }
 
     private static void promise30() {
+        int[] lengths = {0, 0, 2, 2};
+        int[] savedStates = {0, 3, 4, 3};
+        for (int stage = 0; stage < lengths.length; stage++) {
+            RackMoves room = roomOfStage(stage);
+            Check.is("digest of stage " + stage, room.digest(),
+                digestByCalls(room, lengths[stage], savedStates[stage]));
+            Check.is("the same twice", room.digest(), room.digest());
+        }
+    }
+
+    private static RackMoves roomOfStage(int stage) {
         RackMoves room = new RackMoves();
-        Check.is("digest of a new room", room.digest(), digestByCalls(room, 0, 0));
-        room.addMachine(4, 60, 0, 0);
-        room.addMachine(3, 50, 1, 1);
-        room.addCable(0, 1, 8);
-        Check.is("digest", room.digest(), digestByCalls(room, 0, 3));
-        room.move(0, 0);
-        room.move(1, 2);
-        room.append('m');
-        room.append('0');
-        Check.is("digest", room.digest(), digestByCalls(room, 2, 4));
-        room.undo();
-        Check.is("digest", room.digest(), digestByCalls(room, 2, 3));
-        Check.is("the same twice", room.digest(), room.digest());
+        if (stage > 0) {
+            room.addMachine(4, 60, 0, 0);
+            room.addMachine(3, 50, 1, 1);
+            room.addCable(0, 1, 8);
+        }
+        if (stage > 1) {
+            room.move(0, 0);
+            room.move(1, 2);
+            room.append('m');
+            room.append('0');
+        }
+        if (stage > 2) {
+            room.undo();
+        }
+        return room;
     }
 
     private static void promise30Long() {
