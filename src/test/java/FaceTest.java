@@ -1,16 +1,27 @@
+import java.io.IOException;
 import java.lang.reflect.Constructor;
 import java.lang.reflect.Field;
 import java.lang.reflect.Method;
 import java.lang.reflect.Modifier;
+import java.nio.file.Files;
+import java.nio.file.Path;
+import java.util.ArrayList;
 import java.util.Arrays;
+import java.util.List;
 import java.util.Set;
 import java.util.TreeSet;
+import java.util.regex.Matcher;
+import java.util.regex.Pattern;
 
 /** The public face is the one that the document prints, and there is nothing else that is not private. */
 public final class FaceTest {
     private static final String INDEX = " IndexOutOfBoundsException";
     private static final String ARGUMENT = " IllegalArgumentException";
     private static final String STATE = " IllegalStateException";
+
+    private static final Pattern OPEN_LINES = Pattern.compile("(?m)^ {4}public ([^;{]*[^;{ ]) ?[;{]");
+    private static final Pattern HEADING = Pattern.compile("// ---- (.*)");
+    private static final Pattern SAYING = Pattern.compile("Ahead of the calls (.*) the interface says: ---- (.*)\\.");
 
     private static final String[] METHODS = {
         "int setLimit(int, int)" + INDEX + ARGUMENT,
@@ -44,9 +55,15 @@ public final class FaceTest {
         "long digest()",
     };
 
-    public static void main(String[] args) {
+    public static void main(String[] args) throws IOException {
+        String document = Files.readString(Path.of("../shared/DOC.md"));
+        String program = Files.readString(Path.of("src/main/java/RackMoves.java"));
         faceIsTheDocuments();
         nothingElseIsOpen();
+        Check.is("NONE", RackMoves.NONE, -1);
+        Check.same("the face, line by line", openLines(program), openLines(document));
+        Check.is("lines of the face", openLines(document).size(), METHODS.length + 2);
+        headingsAreTheDocuments(document, program);
         Check.end();
     }
 
@@ -103,5 +120,39 @@ public final class FaceTest {
             int due = isNone ? Modifier.PUBLIC | Modifier.STATIC | Modifier.FINAL : Modifier.PRIVATE;
             Check.is("modifiers of " + field, field.getModifiers() & (Modifier.PRIVATE | due), due);
         }
+    }
+
+    /** With the names of the arguments, in their order. */
+    private static List<String> openLines(String text) {
+        List<String> lines = new ArrayList<>();
+        Matcher matcher = OPEN_LINES.matcher(text);
+        while (matcher.find()) {
+            lines.add(matcher.group(1).replaceAll("\\s+", " "));
+        }
+        return lines;
+    }
+
+    private static void headingsAreTheDocuments(String document, String program) {
+        int told = 0;
+        Matcher saying = SAYING.matcher(document);
+        while (saying.find()) {
+            for (String call : saying.group(1).replace("`", "").split(", ")) {
+                Check.same("heading of " + call, headingAheadOf(call, program), saying.group(2));
+                told++;
+            }
+        }
+        Check.is("calls that have a heading", told, METHODS.length);
+    }
+
+    private static String headingAheadOf(String call, String program) {
+        Matcher start = Pattern.compile("(?m)^ {4}public \\w+ " + call + "\\(").matcher(program);
+        String heading = "";
+        if (start.find()) {
+            Matcher matcher = HEADING.matcher(program.substring(0, start.start()));
+            while (matcher.find()) {
+                heading = matcher.group(1);
+            }
+        }
+        return heading;
     }
 }
